@@ -88,6 +88,15 @@ public final class ChancesTest {
         // all wanted: only links beside each other are tidied
         joined("all of the bridge", all, 21, 6, 3);
         joined("ten beside each other", Check.fullNet(), 3, 2, 9);
+        // each of the last links can be cut only when all ahead of it were: one net more than there are links
+        LinkChances five = Check.net(5, Check.l(0, 1, 1, 2), Check.l(0, 2, 1, 2), Check.l(0, 3, 1, 2), Check.l(0, 4, 1, 2),
+            Check.l(1, 2, 1, 2), Check.l(1, 3, 1, 2), Check.l(1, 4, 1, 2), Check.l(2, 3, 1, 2), Check.l(2, 4, 1, 2), Check.l(3, 4, 1, 2));
+        five.goals(31);
+        joined("each with each of five", five, 131, 11, 30);
+        five.goals(0);
+        joined("the same with nothing to reach, behind it", five, 1, 1, 0);
+        five.stations(5);
+        joined("no links, behind all that", five, 1, 1, 0);
         for (int what : new int[] {-1, 5, 6, Integer.MIN_VALUE, Integer.MAX_VALUE}) {
             check.due("joined(" + what + ")", x.joined(what), Check.LONG_BAD);
         }
@@ -108,6 +117,12 @@ public final class ChancesTest {
         ring.goals(6);
         // joining 0 and 1 leaves two beside each other; cutting leaves a row
         joined("a ring, all wanted", ring, 9, 4, 1);
+        // the first link joins 1, which is wanted, to 0, which is not: 0 is wanted then
+        LinkChances turned = Check.net(4, Check.l(0, 1, 1, 2), Check.l(0, 2, 1, 2), Check.l(0, 3, 1, 2), Check.l(1, 2, 1, 2), Check.l(2, 3, 1, 2));
+        turned.source(1);
+        turned.goals(8);
+        check.fraction("a bridge from 1 to 3", turned.joined(0), turned.joined(1), 1, 2);
+        joined("a bridge from 1 to 3", turned, 7, 3, 6);
         LinkChances apart = Check.net(5, Check.l(1, 2, 1, 2), Check.l(3, 4, 1, 2));
         joined("links apart from the source", apart, 1, 1, 2);
         LinkChances away = Check.net(5, Check.l(1, 2, 1, 2), Check.l(2, 3, 1, 2), Check.l(3, 1, 1, 2));
@@ -130,6 +145,11 @@ public final class ChancesTest {
         check.due("wide(-1)", x.wide(-1), -2);
         x.goals(0);
         check.due("one alone wanted: all are won", x.widest(), 0);
+        LinkChances two = Check.net(2, Check.l(0, 1, 1, 2), Check.l(0, 1, 1, 2));
+        two.goals(2);
+        check.due("wide(0) of two beside each other", two.wide(0), 1);
+        check.due("wide(1) of two beside each other", two.wide(1), 0);
+        check.due("widest() behind the first", two.widest(), 1);
         // whether 1, which is open no more, is joined with 2 or with 0 makes no difference
         LinkChances y = Check.net(4, Check.l(1, 2, 1, 2), Check.l(0, 1, 1, 2), Check.l(2, 3, 1, 2), Check.l(0, 3, 1, 2));
         y.goals(8);

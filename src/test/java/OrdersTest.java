@@ -100,7 +100,8 @@ public final class OrdersTest {
     private static void wrongWords() {
         LinkChances x = Check.bridge();
         String[] alone = {"u", "upp1", "p1", "ups", "Up1", "UP1", " up1", "1up", "1", " ", "al", "alls", "nones", "non", "fro1",
-            "froma1", "goals1", "goa1", "dow1", "downs1", "fre1", "frees1", "upa", "\u0000", "\u00ff", "{", "`", "uq1", "doxn1"};
+            "froma1", "goals1", "goa1", "dow1", "downs1", "fre1", "frees1", "upa", "\u0000", "\u00ff", "{", "`", "uq1", "doxn1",
+            "xp1", "xown1", "xree1", "xoal1", "xrom1", "xll", "xone"};
         for (String text : alone) wrong(x, text, 0, 1);
         wrong(x, ";", 0, 1);
         wrong(x, ";up1", 0, 1);

@@ -12,10 +12,17 @@ final class Check {
     }
 
     void due(String call, long got, long want) {
+        due("", call, got, want);
+    }
+
+    /** The words are only put together when they are needed: that would take most of the time. */
+    void due(String test, String call, long got, long want) {
         done++;
         if (got == want) return;
         wrong++;
-        if (wrong <= 20) System.out.println(name + ": " + call + " answered " + got + ", due is " + want);
+        if (wrong > 20) return;
+        String of = test.isEmpty() ? call : test + ": " + call;
+        System.out.println(name + ": " + of + " answered " + got + ", due is " + want);
     }
 
     void fraction(String call, long above, long below, long wantAbove, long wantBelow) {

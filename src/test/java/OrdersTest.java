@@ -98,11 +98,11 @@ public final class OrdersTest {
 
     // promises 24 and 25: wrong by 1
     private static void wrongWords() {
-        LinkChances x = Check.bridge();
         String[] alone = {"u", "upp1", "p1", "ups", "Up1", "UP1", " up1", "1up", "1", " ", "al", "alls", "nones", "non", "fro1",
             "froma1", "goals1", "goa1", "dow1", "downs1", "fre1", "frees1", "upa", "\u0000", "\u00ff", "{", "`", "uq1", "doxn1",
             "xp1", "xown1", "xree1", "xoal1", "xrom1", "xll", "xone"};
-        for (String text : alone) wrong(x, text, 0, 1);
+        for (String text : alone) wrong(Check.bridge(), text, 0, 1);
+        LinkChances x = Check.bridge();
         wrong(x, ";", 0, 1);
         wrong(x, ";up1", 0, 1);
         wrong(x, "up1;", 1, 1);
@@ -112,10 +112,10 @@ public final class OrdersTest {
 
     // wrong by 2
     private static void wrongRests() {
-        LinkChances x = Check.bridge();
         String[] alone = {"up", "down", "free", "goal", "from", "up ", "up 1", "up1 ", "up12", "up01", "upA", "up1a", "up-1", "up/", "up:",
             "goal1.", "from 0", "all1", "all ", "none0", "none.", "allA", "goal99", "up99", "up\u0000", "upA1", "down1\u00ff"};
-        for (String text : alone) wrong(x, text, 0, 2);
+        for (String text : alone) wrong(Check.bridge(), text, 0, 2);
+        LinkChances x = Check.bridge();
         wrong(x, "up1;down", 1, 2);
         wrong(x, "all;none ;up1", 1, 2);
     }

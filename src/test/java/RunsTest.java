@@ -3,11 +3,14 @@ public final class RunsTest {
     private static final String[] ORDERS = {"up", "down", "free", "goal", "from"};
     private static final int[] ODD = {-1, Integer.MIN_VALUE, Integer.MAX_VALUE, 10, 41, 256, -2, 100};
 
+    private static final int MOST_CALLS_OF_AN_ACT = 100;
+
     private final Check check;
     private final int run;
     private long seed;
-    private LinkChances x = new LinkChances();
-    private PlainDesk y = new PlainDesk();
+    private LinkChances x;
+    private PlainDesk y;
+    private int made;
 
     private RunsTest(Check check, int run) {
         this.check = check;
@@ -36,7 +39,9 @@ public final class RunsTest {
         return below(Math.max(1, bound));
     }
 
+    /** Each answer of x is looked at once, so these are its calls, too. */
     private void due(String call, long got, long want) {
+        made++;
         check.due("run " + run + ": " + call, got, want);
     }
 
@@ -45,6 +50,7 @@ public final class RunsTest {
         // runs of dear calls are short, so that the plain way is done in time
         int calls = run % 3 == 0 ? 400 : 60;
         for (int i = 0; i < calls; i++) {
+            if (made > 512 - MOST_CALLS_OF_AN_ACT) start();
             int act = below(run % 3 == 0 ? 20 : 40);
             if (act < 10) changeNet(act);
             else if (act < 14) orders();
@@ -54,7 +60,11 @@ public final class RunsTest {
         due("digest", x.digest(), y.digest());
     }
 
+    /** With new objects: nothing is promised of an object behind its 512th call. */
     private void start() {
+        x = new LinkChances();
+        y = new PlainDesk();
+        made = 0;
         int n = 2 + below(6);
         due("stations", x.stations(n), y.stations(n));
         int links = below(11);

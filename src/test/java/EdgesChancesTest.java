@@ -359,6 +359,41 @@ public final class EdgesChancesTest extends Edges {
         wide("all down, beside each other", beside(10, 0, 1), 1, 1, 1, 1, 1, 1, 1, 1, 1, 0);
     }
 
+    static void promise12_joinedWithAWantedOneInBothOrInNeither() {
+        // behind link 2 the sets of 0, 2 and of 1, 2 differ in this alone: the open 0 is joined with a wanted one, or is not
+        LinkChances x = halves(5, 20, 0, 1, 1, 3, 2, 3, 0, 4, 3, 4);
+        x.source(1);
+        wide("the first station", x, 2, 3, 3, 1, 0);
+        LinkChances y = halves(7, 20, 6, 5, 5, 3, 4, 3, 6, 2, 3, 2);
+        y.source(5);
+        wide("the last station", y, 2, 3, 3, 1, 0);
+    }
+
+    static void promise12_theSameWithWhateverStations() {
+        // the net of the test ahead, with its five stations in all places among seven
+        for (int code = 0; code < 7 * 7 * 7 * 7 * 7; code++) {
+            int a = code % 7, b = code / 7 % 7, c = code / 49 % 7, d = code / 343 % 7, e = code / 2401;
+            if (Integer.bitCount(1 << a | 1 << b | 1 << c | 1 << d | 1 << e) < 5) continue;
+            LinkChances x = halves(7, 1 << c | 1 << e, a, b, b, d, c, d, a, e, d, e);
+            x.source(b);
+            wide("stations " + code, x, 2, 3, 3, 1, 0);
+        }
+    }
+
+    static void promise12_tenLinksFromEachStation() {
+        int[][] due = {{0, 8, 2, 4, 7, 14, 28, 56, 49, 20, 1, 0}, {0, 18, 2, 4, 8, 15, 30, 60, 52, 16, 1, 0}, {1, 16, 2, 4, 8, 14, 28, 56, 49, 10, 1, 0},
+            {1, 36, 2, 4, 8, 16, 30, 60, 52, 12, 1, 0}, {2, 32, 2, 4, 8, 16, 28, 56, 49, 10, 1, 0}, {2, 72, 2, 4, 8, 16, 32, 60, 79, 24, 1, 0},
+            {3, 17, 2, 4, 8, 15, 30, 60, 52, 22, 1, 0}, {4, 1, 2, 4, 8, 15, 30, 60, 45, 16, 1, 0}, {4, 34, 2, 4, 8, 16, 30, 60, 52, 12, 1, 0},
+            {5, 2, 2, 4, 8, 16, 30, 60, 45, 9, 1, 0}, {5, 68, 2, 4, 8, 16, 32, 60, 73, 17, 1, 0}, {6, 4, 2, 4, 8, 16, 32, 60, 73, 17, 1, 0},
+            {6, 9, 2, 4, 8, 16, 32, 63, 73, 27, 1, 0}};
+        for (int[] d : due) {
+            LinkChances x = tenLinks();
+            x.source(d[0]);
+            x.goals(d[1]);
+            wide("ten links from " + d[0] + " to " + d[1], x, d[2], d[3], d[4], d[5], d[6], d[7], d[8], d[9], d[10], d[11]);
+        }
+    }
+
     static void promise12_changesNothing() {
         for (int k : new int[] {0, 5}) leavesNothing(Edges::busyDesk, "wide(" + k + ")", x -> x.wide(k));
         for (int k : new int[] {0, 5, 9}) leavesNothing(Edges::fullDesk, "wide(" + k + ")", x -> x.wide(k));

@@ -194,8 +194,14 @@ public final class EdgesNetTest extends Edges {
         x.goals(64);
         x.source(3);
         x.see(0, 1);
+        x.digest();
         x.stations(4);
         due("digest", x.digest(), y.digest());
+        x.link(2, 3, 1, 3);
+        y.link(2, 3, 1, 3);
+        x.goals(8);
+        y.goals(8);
+        due("digest with a link", x.digest(), y.digest());
     }
 
     static void promise02_ordersSheetsAndFindingStay() {
@@ -435,6 +441,37 @@ public final class EdgesNetTest extends Edges {
         due("bytes", x.count(7), 13);
         due("finding", x.count(8), 2);
         due("get(0, 7)", x.get(0, 7), 9);
+    }
+
+    static void promise04_asIfItHadNeverBeen() {
+        for (int links = 9; links >= 0; links--) {
+            LinkChances x = tenLinks(), y = Check.net(7);
+            x.goals(72);
+            y.goals(72);
+            x.digest();
+            x.better(9, 9, 9, 0);
+            for (int k = 0; k < links; k++) y.link(x.info(k, 0), x.info(k, 1), x.info(k, 2), x.info(k, 3));
+            for (int k = 9; k >= links; k--) x.back();
+            due("digest() with " + links + " left", x.digest(), y.digest());
+        }
+    }
+
+    static void promise04_askedAnewBehindEachBack() {
+        LinkChances x = tenLinks();
+        x.goals(64);
+        for (int left = 9; left >= 0; left--) {
+            LinkChances y = Check.net(7);
+            y.goals(64);
+            for (int k = 0; k < left; k++) y.link(x.info(k, 0), x.info(k, 1), x.info(k, 2), x.info(k, 3));
+            x.back();
+            reach("what is left", x, y.reach(0), y.reach(1));
+            fraction("pair(0, 3)", x.pair(0, 3, 0), x.pair(0, 3, 1), y.pair(0, 3, 0), y.pair(0, 3, 1));
+            fraction("rule", x.rule(0), x.rule(1), y.rule(0), y.rule(1));
+            if (left > 0) fraction("worth(0)", x.worth(0, 0), x.worth(0, 1), y.worth(0, 0), y.worth(0, 1));
+            due("worthiest()", x.worthiest(), y.worthiest());
+            due("sets", x.sets(left), y.sets(left));
+            due("widest()", x.widest(), y.widest());
+        }
     }
 
     static void promise04_itsNumberIsUsedAgain() {

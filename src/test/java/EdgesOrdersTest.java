@@ -304,6 +304,8 @@ public final class EdgesOrdersTest extends Edges {
         for (String word : WITH_FIGURE) {
             wrong(word.substring(0, word.length() - 1) + "0", 0, 1);
             wrong(word.substring(1) + "0", 0, 1);
+            wrong("x" + word.substring(1) + "0", 0, 1);
+            wrong(word.substring(0, word.length() - 1) + "x0", 0, 1);
             wrong(word + word + "0", 0, 1);
             wrong(word + "s0", 0, 1);
             wrong("a" + word + "0", 0, 1);
@@ -313,6 +315,8 @@ public final class EdgesOrdersTest extends Edges {
         for (String word : ALONE) {
             wrong(word.substring(0, word.length() - 1), 0, 1);
             wrong(word.substring(1), 0, 1);
+            wrong("x" + word.substring(1), 0, 1);
+            wrong(word.substring(0, word.length() - 1) + "x", 0, 1);
             wrong(word + word, 0, 1);
             wrong(word + "a", 0, 1);
             wrong(word + "z", 0, 1);

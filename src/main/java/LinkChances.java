@@ -1072,12 +1072,15 @@ public final class LinkChances {
             return good;
         }
 
-        /** How many orders stand ahead of the first that is wrong; sets what it is wrong by. */
+        /**
+         * How many orders stand ahead of the first that is wrong; sets what it is wrong by.
+         * Each that is not wrong has bytes of its own, so there are never as many as there may be bytes.
+         */
         private int lookThrough() {
             int good = 0;
             int start = 0;
             fault = 0;
-            while (length > 0 && start <= length) {
+            while (good < MOST_BYTES && length > 0 && start <= length) {
                 int end = endFrom(start);
                 fault = faultOf(start, end);
                 if (fault != 0) return good;

@@ -15,6 +15,7 @@ public final class LanguageTest {
         face();
         names(text);
         methods(text);
+        loops(text);
         check.end();
     }
 
@@ -99,5 +100,24 @@ public final class LanguageTest {
             length++;
             if (line.matches(" {4}( {4})?\\}")) check.due("lines of a method", length <= 60 ? 1 : 0, 1);
         }
+    }
+
+    /** Rule 9: each loop counts up by one against a bound, and that stands in its own lines. */
+    private static void loops(String text) {
+        none(text, "\\bdo\\b");
+        Matcher counted = Pattern.compile("\\bfor \\((.*)").matcher(text);
+        while (counted.find()) {
+            String head = counted.group(1);
+            check.due("for (" + head, head.matches("int (\\w+) = [^;]+; \\1 <=? [^;]+; \\1\\+\\+\\) .*") ? 1 : 0, 1);
+        }
+        Matcher other = Pattern.compile("\n( *)while \\((\\w+)( < .*)").matcher(text);
+        int found = 0;
+        while (other.find()) {
+            found++;
+            String lines = other.group(3);
+            if (lines.endsWith("{")) lines = text.substring(other.start(), text.indexOf("\n" + other.group(1) + "}", other.end()));
+            check.due("while (" + other.group(2) + other.group(3), lines.contains(other.group(2) + "++;") ? 1 : 0, 1);
+        }
+        check.due("while loops without a counter ahead", text.split("\\bwhile\\b").length - 1 - found, 0);
     }
 }
